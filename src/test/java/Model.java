@@ -50,6 +50,9 @@ final class Model {
     @Override int part(int f) { return -1; }
   }
 
+  /** Above 255, so that no letter fits it. */
+  private static final String NO_LETTER = "\u0100";
+
   private static final Sheet[] KINDS = {new Sheet(), new Urgent(), new Draft(), new Carbon(), new Bully(), new Saint()};
 
   /** One sheet on the floor. */
@@ -261,7 +264,7 @@ final class Model {
     int at = 0;
     do {
       char c = at < text.length() ? text.charAt(at) : 0;
-      form = c == 's' ? "s###;" : c == 'o' ? "o####;" : c == 'r' ? "r##;" : c == 'm' ? "m#;" : c == 'd' ? "d##;" : "?";
+      form = c == 's' ? "s###;" : c == 'o' ? "o####;" : c == 'r' ? "r##;" : c == 'm' ? "m#;" : c == 'd' ? "d##;" : NO_LETTER;
       for (char f : form.toCharArray()) {
         boolean fits = at < text.length() && (f == '#' ? "0123456789".indexOf(text.charAt(at)) >= 0 : f == text.charAt(at));
         if (!fits) return -1000 - at;
