@@ -65,8 +65,10 @@ public final class ChangesTest {
       Due.is("3: office " + texts[i], Due.office(x, texts[i]), -1000 - places[i]);
       Due.is("3: letters", x.count(7), 0);
     }
+    Due.is("3: office of 96 letters, the last lacks something", Due.office(x, "s000;".repeat(19) + "s"), -1096);
     Due.is("3: no sheet came", x.count(0), 0);
     for (int i = 11; i <= 16; i++) Due.is("3: a FAULT is not counted", x.count(i), 0);
+    Due.is("3: office of 96 letters", Due.office(x, "r01;".repeat(24)), 24);
   }
 
   private static void officeStatements() {

@@ -48,6 +48,7 @@ public final class ChoicesTest {
     Due.is("22: other", x.heaviest(-1), 1000000002);
     Due.is("22: refusals", x.count(12), 2);
     Due.is("22: of several the least", Due.with("s030;s000;s031;").heaviest(0), 0);
+    Due.is("22: that of sheet 0", Due.with("s030;s000;s031;").heaviest(1), 6);
     InTraysPurgatory none = Due.with("s000;m0;");
     Due.is("22: none", none.heaviest(0), -9);
     Due.is("22: none", none.heaviest(1), -9);
@@ -123,6 +124,8 @@ public final class ChoicesTest {
     order(Due.with("r09;r11;r28;r30;s000;s001;s002;s003;"), 9, 3, 1, 2, 0);
     order(Due.with("r05;r15;r25;r35;s000;s001;s002;s003;s000;"), 5, 0, 1, 2, 3);
     order(Due.with("s000;s001;s003;m1;"), 6, 0, 3);
+    order(Due.with("r10;r30;s003;s000;s001;"), 0, 0, 1, 3);
+    order(Due.with("s000;"), 0, 0);
   }
 
   private static void order(InTraysPurgatory x, int way, int... officials) {
@@ -137,6 +140,8 @@ public final class ChoicesTest {
     Due.is("26: the other has more", x.two(0, 1), 1);
     Due.is("26: the one has more", x.two(1, 0), 10);
     Due.is("26: neither", x.two(0, 2), 0);
+    Due.is("26: 5 more are enough", Due.with("o0102;o1205;o2204;o3103;s131;s551;").two(0, 1), 1);
+    Due.is("26: 5 more are not enough", Due.with("o0102;o1205;o2204;o3103;s141;s551;").two(0, 1), 0);
     Due.is("26: of no sheets", new InTraysPurgatory().two(3, 2), 0);
     Due.is("26: one twice", x.two(1, 1), -1);
     Due.is("26: nobody", x.two(4, 1), -1);
@@ -181,6 +186,9 @@ public final class ChoicesTest {
     InTraysPurgatory x = Due.with("s000;s002;s002;s003;s003;s000;s000;m0;m5;m6;");
     Due.is("28: fullest", x.fullest(0), 2);
     Due.is("28: how many", x.fullest(1), 2);
+    InTraysPurgatory one = Due.with("s001;s001;s001;s003;s003;");
+    Due.is("28: fullest", one.fullest(0), 1);
+    Due.is("28: how many", one.fullest(1), 3);
     Due.is("28: other", x.fullest(2), -2);
     Due.is("28: other", x.fullest(-1), -2);
     Due.is("28: none", new InTraysPurgatory().fullest(0), 0);
@@ -295,6 +303,8 @@ public final class ChoicesTest {
     InTraysPurgatory signed = Due.with("o0130;s390;d01;s000;");
     Due.is("41: more, not in all", signed.lots(2, 1, 0), 2);
     Due.is("41: more, not in all", signed.lots(2, 1, 1), 2);
+    Due.is("41: on day 10", Due.with("o0106;o1106;o2106;o3106;s490;").lots(1, 0, 0), 1);
+    Due.is("41: on day 11", Due.with("o0105;o1105;o2105;o3105;s490;").lots(1, 0, 0), 0);
     InTraysPurgatory mislaid = Due.with("s000;m0;");
     Due.is("41: the mislaid stays so", mislaid.lots(5, 1, 0), 0);
     Due.is("41: less borne", Due.with("o0130;o1130;o2130;o3130;s390;d01;s500;m1;").lots(1, 0, 1), 0);

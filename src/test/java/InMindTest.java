@@ -218,6 +218,14 @@ public final class InMindTest {
     Due.is("32: round", Due.with("o0130;s393;").clerk(), 3);
     // without 1 both are signed, as 0 passes sheet 1 on to 2 then
     Due.is("32: he is passed over", Due.with("o0100;o2130;s391;s060;").clerk(), 1);
+    // only 0 signs within 30 days what goes round
+    Due.is("32: he takes nothing", Due.with("o0130;o1100;o2100;o3100;s492;s492;s492;").clerk(), 1);
+    // without 0, as without 2, sheet 0 is signed by 1 within 30 days only if it is among the first three of the nine
+    String nine = "o0100;o1103;o2100;o3100;s090;s390;s390;s390;s390;s390;s390;s390;s390;";
+    Due.is("32: in its order", Due.with(nine).clerk(), 0);
+    InTraysPurgatory late = Due.with(nine.replace("s090;s390;s390;s390;", "s390;s390;s390;s090;"));
+    for (int s = 0; s < 3; s++) late.moves(s, 0);
+    Due.is("32: in its order, not by numbers", late.clerk(), 0);
     Due.is("32: all signed by each", Due.with("o0130;o1130;o2130;o3130;s000;s391;").clerk(), 0);
   }
 
@@ -226,6 +234,11 @@ public final class InMindTest {
     Due.is("33: no more than as it is", Due.with("o0100;o1100;o2100;o3100;s490;s490;").light(), -9);
     Due.is("33: a light one is none", Due.with("s003;" + ROUND).light(), 1);
     Due.is("33: none", new InTraysPurgatory().light(), -9);
+    // sheet 7 is taken every eighth day then, and signed as it is taken for the fourth time: on day 31 without sheet 0,
+    // that lies behind it, on day 30 without one ahead
+    InTraysPurgatory days =
+        Due.with("o0100;o1100;o2100;o3100;s390;s390;s390;s390;s390;s390;s390;s090;s390;m0;m0;");
+    Due.is("33: within 30 days", days.light(), 1);
     InTraysPurgatory mislaid = Due.with(ROUND + "m0;");
     Due.is("33: the mislaid", mislaid.light(), -9);
     mislaid.mislays(0);
