@@ -41,6 +41,8 @@ public final class InTraysPurgatory {
   private static final int DECADE = 10;
   private static final int ROUND_PASSINGS = 4;
   private static final int MORE_MERCY = 5;
+  /** Two officials have two choices each. */
+  private static final int PAIRS = 4;
   private static final int HOLIDAYS_MOST = 6;
   private static final int ODDS_MOST = 20;
   private static final int LOTS_MOST = 20;
@@ -48,6 +50,7 @@ public final class InTraysPurgatory {
   private static final int LETTER_GREATEST = 255;
   private static final int ROW_MOST = 12;
   private static final int ROW_GREATEST = 99;
+  private static final int TOLD_AS_GONE = 9;
   private static final int PAST_MOST = 8;
   private static final int FAULT_OF_LETTER = -1000;
   private static final int FAULT_OF_STATEMENT = -2000;
@@ -61,10 +64,11 @@ public final class InTraysPurgatory {
   private int lettersIn;
   private final int[] numbers = new int[ROW_MOST];
   private int numbersIn;
-  private final int[] refusals = new int[7];
+  /** How many refusals there were, each at its number without the sign. */
+  private final int[] refusals = new int[1 - ROOM];
   private final int[] signedAsItIs = new int[SHEETS];
-  private final int[] borneByOne = new int[4];
-  private final int[] borneByOther = new int[4];
+  private final int[] borneByOne = new int[PAIRS];
+  private final int[] borneByOther = new int[PAIRS];
   private int seed;
 
   public InTraysPurgatory() {
@@ -449,7 +453,7 @@ public final class InTraysPurgatory {
   private boolean isWayAsRow(int sheet) {
     for (int i = 0; i < numbersIn && i < numbers.length; i++) {
       if (i > 0) mind.live(1);
-      int tray = mind.state[sheet] == WAITING ? mind.at[sheet] : 9;
+      int tray = mind.state[sheet] == WAITING ? mind.at[sheet] : TOLD_AS_GONE;
       if (tray != numbers[i]) return false;
     }
     return true;
@@ -505,7 +509,7 @@ public final class InTraysPurgatory {
 
   public int two(int one, int other) {
     if (!isOfficial(one) || !isOfficial(other) || one == other) return refuse(NOBODY);
-    for (int pair = 0; pair < 4; pair++) {
+    for (int pair = 0; pair < PAIRS; pair++) {
       mind.begin(now);
       mind.mercy[one] += (pair >> 1) * MORE_MERCY;
       mind.mercy[other] += (pair & 1) * MORE_MERCY;
@@ -513,7 +517,7 @@ public final class InTraysPurgatory {
       borneByOne[pair] = mind.borne[one] - now.borne[one];
       borneByOther[pair] = mind.borne[other] - now.borne[other];
     }
-    for (int pair = 0; pair < 4; pair++) {
+    for (int pair = 0; pair < PAIRS; pair++) {
       boolean oneStays = borneByOne[pair] <= borneByOne[pair ^ 2];
       boolean otherStays = borneByOther[pair] <= borneByOther[pair ^ 1];
       if (oneStays && otherStays) return (pair >> 1) * 10 + (pair & 1);

@@ -13,6 +13,11 @@ final class Due {
     if (wrong <= 40) System.out.println(call + " answered " + got + ", due is " + want);
   }
 
+  static void same(String what, String got, String want) {
+    is(what, got.equals(want) ? 0 : 1, 0);
+    if (!got.equals(want) && wrong <= 40) System.out.println("is:\n" + got + "due is:\n" + want);
+  }
+
   static int wrongSoFar() {
     return wrong;
   }
