@@ -355,9 +355,16 @@ public final class EdgesInMindTest {
     Due.is("32: none", new InTraysPurgatory().clerk(), 0);
     clerkRound();
     clerkLeavesMinutes();
+    clerkOfAll();
     // without 0, 2 or 3 the one CARBON is signed by 1 on day 30; the other one, of 0, goes behind it, though it came first
     Due.is("32: behind all there", Due.with("o0100;o1106;o2100;o3100;s390;s491;s481;s401;s301;").clerk(), 0);
     Due.is("32: all are signed now", Due.with("s000;d01;").clerk(), 0);
+  }
+
+  /** One of them goes, also where more would be signed with all; and all nine of his sheets are passed on. */
+  private static void clerkOfAll() {
+    Due.is("32: without any of them fewer", Due.with(Clock.holds(29) + "s000;").clerk(), 0);
+    Due.is("32: all nine", Due.with("o0130;o1100;o2100;o3106;" + "s303;".repeat(8) + "s393;").clerk(), 3);
   }
 
   /**
