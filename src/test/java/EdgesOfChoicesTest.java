@@ -14,6 +14,7 @@ public final class EdgesOfChoicesTest {
     two();
     twoDays();
     twoMercies();
+    twoOfBoth();
     holidays();
     fullest();
     longest();
@@ -302,6 +303,27 @@ public final class EdgesOfChoicesTest {
       Due.is("26: mercy " + mercy, x.two(0, 1), mercy >= 4 && mercy <= 8 ? 1 : 0);
       Due.is("26: mercy " + mercy, x.two(1, 2), mercy >= 4 && mercy <= 8 ? 10 : 0);
     }
+  }
+
+  /** (1, 1) alone stays; told is what the first and the other bear by (0, 0), (0, 1), (1, 0) and (1, 1). */
+  private static void twoOfBoth() {
+    int[][] ofOne = {{1, 31}, {1, 55}, {0, 55}, {1, 54}};
+    bearAndChoose("o0103;o1403;o2114;o3312;s270;s440;s000;s223;s442;s493;s530;s572;", 0, 2, ofOne);
+    int[][] ofAnother = {{3, 1}, {0, 2}, {1, 1}, {0, 0}};
+    bearAndChoose("o0300;o1103;o2302;o3102;s293;s553;s470;s551;s042;s573;s251;s571;s000;", 3, 1, ofAnother);
+  }
+
+  private static void bearAndChoose(String text, int one, int other, int[][] due) {
+    InTraysPurgatory x = Due.with(text);
+    for (int pair = 0; pair < 4; pair++) {
+      InTraysPurgatory y = Due.with(text);
+      y.sets(one, 1, y.officialOf(one, 1) + 5 * (pair / 2));
+      y.sets(other, 1, y.officialOf(other, 1) + 5 * (pair % 2));
+      Due.is("13: the one bears, pair " + pair, y.then(one, 10, 0), due[pair][0]);
+      Due.is("13: the other bears, pair " + pair, y.then(other, 10, 0), due[pair][1]);
+    }
+    Due.is("26: more mercy, both of them", x.two(one, other), 11);
+    Due.is("26: more mercy, the other way round", x.two(other, one), 11);
   }
 
   private static void fraction(InTraysPurgatory x, int official, int sheet, int n, int t, long above, long below) {

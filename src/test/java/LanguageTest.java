@@ -5,8 +5,13 @@ import java.lang.reflect.Constructor;
 import java.lang.reflect.Field;
 import java.lang.reflect.Method;
 import java.lang.reflect.Modifier;
+import java.util.ArrayList;
+import java.util.HashSet;
+import java.util.List;
+import java.util.Set;
 import java.util.regex.Matcher;
 import java.util.regex.Pattern;
+import java.util.stream.Stream;
 
 /** Some of the rules of LANGUAGE.md, as far as they can be seen from the text and the class. */
 public final class LanguageTest {
@@ -27,6 +32,7 @@ public final class LanguageTest {
       Due.is("LANGUAGE: " + calls.group(), listed ? 0 : 1, 0);
     }
     face();
+    counts();
     methodLengths(code);
     Due.end();
   }
@@ -43,9 +49,32 @@ public final class LanguageTest {
       boolean plain = !Modifier.isStatic(f.getModifiers()) || Modifier.isFinal(f.getModifiers());
       Due.is("LANGUAGE: rule 5, " + f.getName(), plain ? 0 : 1, 0);
     }
+    for (Class<?> c : InTraysPurgatory.class.getDeclaredClasses()) {
+      int modifiers = c.getModifiers();
+      boolean plain = Modifier.isStatic(modifiers) && !Modifier.isPublic(modifiers) && !Modifier.isProtected(modifiers);
+      Due.is("LANGUAGE: rule 1, " + c.getName(), plain ? 0 : 1, 0);
+    }
     Constructor<?>[] constructors = InTraysPurgatory.class.getDeclaredConstructors();
     Due.is("LANGUAGE: one constructor", constructors.length, 1);
     Due.is("LANGUAGE: final", Modifier.isFinal(InTraysPurgatory.class.getModifiers()) ? 0 : 1, 0);
+  }
+
+  /** Few classes, few fields, few parameters, and no private method with the name of a public one. */
+  private static void counts() {
+    Set<String> open = new HashSet<>();
+    for (Method m : InTraysPurgatory.class.getMethods()) open.add(m.getName());
+    List<Class<?>> classes = new ArrayList<>(List.of(InTraysPurgatory.class.getDeclaredClasses()));
+    classes.add(InTraysPurgatory.class);
+    Due.is("LANGUAGE: rule 11, classes", classes.size() <= 12 ? 0 : classes.size(), 0);
+    for (Class<?> c : classes) {
+      long fields = Stream.of(c.getDeclaredFields()).filter(f -> !Modifier.isStatic(f.getModifiers())).count();
+      Due.is("LANGUAGE: rule 11, fields of " + c.getName(), fields <= 20 ? 0 : fields, 0);
+      for (Method m : c.getDeclaredMethods()) {
+        Due.is("LANGUAGE: rule 11, parameters of " + m.getName(), m.getParameterCount() <= 7 ? 0 : 1, 0);
+        boolean hidden = !Modifier.isPublic(m.getModifiers());
+        Due.is("LANGUAGE: rule 1, name " + m.getName(), hidden && open.contains(m.getName()) ? 1 : 0, 0);
+      }
+    }
   }
 
   private static void methodLengths(String code) {
